@@ -16,6 +16,7 @@ public final class ShrinkDesk {
     private static final int STEPS = 200, DEPTH = 8, SHORT = 3;
     private static final int ROOM = LINES * (1 + SHORT);
     private static final int ROWS = 2 * METHODS;
+    private static final int CODE = ROWS * ROOM;
     private static final int OLD = 0, BUILT = 1;
     private static final int OUT = 0, NEW = 1, CALL = 2, STATIC = 3, TEST = 4, FAIL = 5, ENTER = 6;
     private static final int GONE = 0, BARE = 1, FILLED = 2;
@@ -37,12 +38,12 @@ public final class ShrinkDesk {
     private final int[] nameOf = new int[ROWS];
     private final int[] lengthOf = new int[ROWS];
 
-    private final int[] opOf = new int[ROWS * ROOM];
-    private final int[] classOf = new int[ROWS * ROOM];
-    private final int[] numberOf = new int[ROWS * ROOM];
-    private final int[] sourceMethod = new int[ROWS * ROOM];
-    private final int[] sourceLine = new int[ROWS * ROOM];
-    private final int[] callLine = new int[ROWS * ROOM];
+    private final int[] opOf = new int[CODE];
+    private final int[] classOf = new int[CODE];
+    private final int[] numberOf = new int[CODE];
+    private final int[] sourceMethod = new int[CODE];
+    private final int[] sourceLine = new int[CODE];
+    private final int[] callLine = new int[CODE];
 
     private int ruleCount;
     private final int[] ruleKind = new int[RULES];

@@ -14,7 +14,7 @@ public final class LanguageTest {
     private static final Pattern MEMBER = Pattern.compile(
         "(?m)^    (public|private) (static )?(?:(?:int|boolean|void) )?(\\w+)\\(([^)]*)\\) \\{\\n");
     private static final Pattern FIELD = Pattern.compile("(?m)^    private (?!static)[^(\\n]*;$");
-    private static final Pattern MADE = Pattern.compile("private final \\w+\\[\\] \\w+ = new \\w+\\[[A-Z *]+\\];");
+    private static final Pattern MADE = Pattern.compile("private final \\w+\\[\\] \\w+ = new \\w+\\[[A-Z]+\\];");
 
     private static final Map<String, String> bodies = new TreeMap<>();
     private static final Set<String> publicNames = new TreeSet<>();
@@ -39,11 +39,13 @@ public final class LanguageTest {
         String[] words = {"import", "package", "throw", "throws", "try", "catch", "finally",
             "synchronized", "assert", "instanceof", "null", "String", "Math", "Integer", "System",
             "Arrays", "Object", "float", "double", "protected", "enum", "interface", "record",
-            "Random", "Thread", "->", "::", "while", "do"};
+            "Random", "Thread", "->", "::"};
         for (String word : words) {
             String pattern = Character.isLetter(word.charAt(0)) ? "\\b" + word + "\\b" : word;
             Checks.due("rules 1 to 11: " + word, Pattern.compile(pattern).matcher(source).find(), false);
         }
+        // Only for loops are looked at below, so there are to be no others.
+        Checks.due("rule 8: other loops", Pattern.compile("\\b(while|do)\\b").matcher(source).find(), false);
         for (String row : source.split("\n")) {
             if (row.matches(".*\\bnew\\b.*")) {
                 Checks.due("rule 4: " + row.trim(), MADE.matcher(row).find(), true);

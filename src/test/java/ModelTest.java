@@ -97,7 +97,11 @@ public final class ModelTest {
             changeRarely();
         }
         for (int k = 1 + roll(3); k > 0; k--) {
-            keep(roll(5) < 3 ? 0 : 1, roll(1024) & roll(2048), roll(1024));
+            if (roll(3) == 0) {
+                keep(0, 1023, 1 << roll(names) & roll(1024));
+            } else {
+                keep(roll(5) < 3 ? 0 : 1, roll(1024) & roll(2048), roll(1024));
+            }
         }
     }
 

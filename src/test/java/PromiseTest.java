@@ -31,6 +31,7 @@ public final class PromiseTest {
         promise11Renamed();
         promise12Stays();
         promise12Families();
+        promise12FamilyByOthers();
         promise12NamesAboveNine();
         promise13Line();
         promise14State();
@@ -734,6 +735,34 @@ public final class PromiseTest {
             int[] names = {3, 3, 0, 3, 0, 1};
             due("12 name in line " + k, x.line(5, 9, k, 2), names[k]);
         }
+    }
+
+    /** No class has both of the interfaces, but each has a class with class 2's children. */
+    private static void promise12FamilyByOthers() {
+        ShrinkDesk x = new ShrinkDesk();
+        x.type(true, -1);
+        x.method(3, true);
+        x.type(true, -1);
+        x.method(4, true);
+        x.method(3, true);
+        x.type(false, -1);
+        x.method(3, true);
+        x.type(false, 2);
+        x.also(0);
+        x.type(false, 2);
+        x.also(1);
+        x.type(false, -1);
+        filled(x, 9, CALL, 0, 3, CALL, 1, 4, CALL, 1, 3, CALL, 2, 3);
+        x.keep(0, set(5, 3, 4), set(9));
+        due("12 build", x.build(), OK);
+        due("12 by the first interface", x.stays(0, 1), 0);
+        due("12 another family in between", x.stays(1, 1), 1);
+        due("12 the second interface by others", x.stays(2, 1), 0);
+        due("12 the class that has them together", x.stays(3, 1), 0);
+        x.keep(1, set(1), set(3));
+        due("12 build with one of them kept", x.build(), OK);
+        due("12 kept by others", x.stays(0, 1), 3);
+        due("12 the family that is not kept", x.stays(1, 1), 0);
     }
 
     /**
