@@ -34,6 +34,7 @@ public final class PromiseBoundaryTest extends Checks {
         clearCountsClasses();
         clearMakesRoom();
         clearLeavesNothingBehind();
+        clearedIsAsNew();
         acceptedCallsEndWhatWasBuilt();
         buildOfNothing();
         buildNoClass();
@@ -43,6 +44,7 @@ public final class PromiseBoundaryTest extends Checks {
         buildFirstByMethodsAndLines();
         buildRefusedBuildsNothing();
         runNoSuchClass();
+        runNoSuchClassBesideOne();
         runFindsNothing();
         runFindsAbstract();
         runWhichOutside();
@@ -55,7 +57,9 @@ public final class PromiseBoundaryTest extends Checks {
         staysOutside();
         staysWhat();
         lineAtTheEdges();
+        lineByNewNumbersAndNames();
         lineWhat();
+        lineIntOfOthers();
         lineOfTheLongest();
         stateOutside();
         stateOfTheLatestRun();
@@ -64,6 +68,7 @@ public final class PromiseBoundaryTest extends Checks {
         badBeforeFull();
         clearEndsWhatWasBuilt();
         questionsChangeNothing();
+        upTo512Calls();
         finish("PromiseBoundaryTest");
     }
 
@@ -505,6 +510,45 @@ public final class PromiseBoundaryTest extends Checks {
         x = Desks.faulty();
         x.clear();
         due("7 what was wrong went", x.build(), OK);
+        x = Desks.cleared();
+        x.type(false, -1);
+        filled(x, 7, TEST, 0, 0);
+        x.type(false, -1);
+        x.type(false, -1);
+        filled(x, 8, TEST, 0, 0);
+        x.type(false, -1);
+        filled(x, 5, STATIC, 0, 7, STATIC, 2, 8);
+        x.keep(0, 1 << 3, 1 << 5);
+        due("7 build", x.build(), OK);
+        due("7 names are as free as at first", x.stays(0, 1), 0);
+        due("7 for each family", x.stays(1, 1), 0);
+    }
+
+    /** What is told behind a clear is as if told to a new object. */
+    private static void clearedIsAsNew() {
+        Unchanged.alike("7 told anew", () -> {
+            ShrinkDesk x = Desks.cleared();
+            Desks.tell(x);
+            x.build();
+            x.run(1, 4, 5);
+            return x;
+        }, Desks::built);
+        Unchanged.alike("7 told anew with all as roots", () -> {
+            ShrinkDesk x = Desks.cleared();
+            tellRoots(x);
+            return x;
+        }, () -> {
+            ShrinkDesk x = new ShrinkDesk();
+            tellRoots(x);
+            return x;
+        });
+    }
+
+    private static void tellRoots(ShrinkDesk x) {
+        Desks.tell(x);
+        x.keep(0, -1, -1);
+        x.build();
+        x.run(0, 4, 6);
     }
 
     // ---- 2 to 6: what was built is no more, if they are accepted ----
@@ -693,6 +737,34 @@ public final class PromiseBoundaryTest extends Checks {
         }, x -> x.run(1, 0, 0), BAD);
     }
 
+    /** Class 0 finds what is asked for, so that it would be run if it were taken for the one that is not. */
+    private static void runNoSuchClassBesideOne() {
+        for (int c : new int[] {-1, 1, 9, 10, LOW, HIGH}) {
+            for (int which = 0; which < 2; which++) {
+                int same = which;
+                Unchanged.by("9 just class 0, asked of " + c, PromiseBoundaryTest::justOne,
+                    x -> x.run(same, c, 0), BAD);
+            }
+            due("13 just class 0, asked of " + c, justOne().line(c, 0, 0, 0), BAD);
+        }
+        due("9 class 0", justOne().run(0, 0, 0), ShrinkDesk.DONE);
+        due("9 class 0 as built", justOne().run(1, 0, 0), ShrinkDesk.DONE);
+        due("13 class 0", justOne().line(0, 0, 0, 0), OUT);
+        ShrinkDesk x = justOne();
+        x.keep(1, 0, 0);
+        due("13 class 0, built no more", x.line(0, 0, 0, 0), BAD);
+        due("9 class 0, built no more", x.run(1, 0, 0), BAD);
+    }
+
+    private static ShrinkDesk justOne() {
+        ShrinkDesk x = Desks.ofClasses(1);
+        filled(x, 0, OUT, 0, 4, OUT, 0, 5);
+        x.keep(0, 1, 1);
+        x.build();
+        x.run(1, 0, 0);
+        return x;
+    }
+
     private static void runFindsNothing() {
         due("9 of its own", Desks.built().run(0, 4, 6), ShrinkDesk.DONE);
         due("9 of its parent", Desks.built().run(0, 3, 1), ShrinkDesk.DONE);
@@ -775,13 +847,19 @@ public final class PromiseBoundaryTest extends Checks {
         }, x -> x.run(1, 4, 5), BAD);
     }
 
-    private static void runBuiltByNewNumbersAndNames() {
+    /** Class 1 becomes 0, and its name 7 becomes 0. */
+    private static ShrinkDesk newNames() {
         ShrinkDesk x = Desks.ofClasses(2);
         filled(x, 7, TEST, 1, 0, FAIL, 0, 0);
         x.type(false, -1);
         filled(x, 5, NEW, 1, 0, CALL, 1, 7);
         x.keep(0, 1 << 2, 1 << 5);
         due("9 build", x.build(), OK);
+        return x;
+    }
+
+    private static void runBuiltByNewNumbersAndNames() {
+        ShrinkDesk x = newNames();
         due("9 the new number", x.renamed(1), 0);
         due("9 the new name", x.stays(0, 1), 0);
         due("9 by new ones", x.run(1, 0, 0), ShrinkDesk.DONE);
@@ -877,6 +955,9 @@ public final class PromiseBoundaryTest extends Checks {
                 due("12 method " + want[0] + ", " + what, x.stays(want[0], what), BAD);
             }
         }
+        x = bareByBuild();
+        due("12 it stays as abstract", x.stays(0, 0), 1);
+        due("12 so it has no instructions then", x.stays(0, 2), 0);
     }
 
     // ---- 13: line ----
@@ -905,6 +986,19 @@ public final class PromiseBoundaryTest extends Checks {
         }
     }
 
+    private static void lineByNewNumbersAndNames() {
+        ShrinkDesk x = newNames();
+        dueLine(x, 0, 0, 0, TEST, 0, 0, 0, 0, -1);
+        dueLine(x, 0, 0, 1, FAIL, -1, 0, 0, 1, -1);
+        dueLine(x, 2, 5, 0, NEW, 0, 0, 1, 0, -1);
+        dueLine(x, 2, 5, 1, CALL, 0, 0, 1, 1, -1);
+        due("13 by the old number", x.line(1, 0, 0, 0), BAD);
+        due("13 by the old name", x.line(0, 7, 0, 0), BAD);
+        due("13 by both", x.line(1, 7, 0, 0), BAD);
+        x = bareByBuild();
+        due("13 what stays as abstract has no lines", x.line(0, 0, 0, 0), BAD);
+    }
+
     private static void lineWhat() {
         ShrinkDesk x = Desks.built();
         dueLine(x, 4, 5, 0, NEW, 2, 0, 5, 0, -1);
@@ -919,6 +1013,22 @@ public final class PromiseBoundaryTest extends Checks {
         }
     }
 
+    /** The int of an OUT, the name of a CALL or STATIC; what was told for others is not told again. */
+    private static void lineIntOfOthers() {
+        ShrinkDesk x = Desks.ofClasses(1);
+        filled(x, 3, TEST, 0, 44);
+        filled(x, 5, NEW, 0, 41, CALL, 0, 3, STATIC, 0, 3, TEST, 0, 42, OUT, 0, 43, FAIL, 0, 45);
+        x.keep(0, 1, 1 << 3 | 1 << 5);
+        due("13 build", x.build(), OK);
+        int[] wants = {0, 3, 3, 0, 43, 0};
+        int[] classes = {0, 0, 0, 0, -1, -1};
+        for (int k = 0; k < 6; k++) {
+            due("13 class of line " + k, x.line(0, 5, k, 1), classes[k]);
+            due("13 int of line " + k, x.line(0, 5, k, 2), wants[k]);
+        }
+        due("13 int of a TEST", x.line(0, 3, 0, 2), 0);
+    }
+
     /** Six calls, three instructions behind each: the greatest length there is. */
     private static void lineOfTheLongest() {
         ShrinkDesk x = Desks.ofClasses(10);
@@ -926,8 +1036,11 @@ public final class PromiseBoundaryTest extends Checks {
             filled(x, n, OUT, 0, 10 * n, OUT, 0, 10 * n + 1, OUT, 0, 10 * n + 2);
         }
         filled(x, 0, STATIC, 9, 9, STATIC, 9, 8, STATIC, 9, 7, STATIC, 9, 9, STATIC, 9, 8, STATIC, 9, 7);
-        x.keep(0, 1 << 9, 1);
+        filled(x, 6, STATIC, 9, 5);
+        filled(x, 5, TEST, 9, 0);
+        x.keep(0, 1 << 9, 1 << 0 | 1 << 6);
         due("13 build", x.build(), OK);
+        dueLine(x, 9, 6, 0, STATIC, 9, 1, 4, 0, -1);
         due("13 24 instructions", x.stays(3, 2), 24);
         dueLine(x, 9, 0, 0, ENTER, -1, 0, 3, 0, -1);
         dueLine(x, 9, 0, 20, ENTER, -1, 0, 3, 5, -1);
@@ -1090,5 +1203,23 @@ public final class PromiseBoundaryTest extends Checks {
         Unchanged.by("15 asked of none", made, x -> x.out(3), 0);
         Unchanged.by("16 asked", made, x -> x.trace(0, 1), 3);
         Unchanged.by("16 asked of none", made, x -> x.trace(1, 1), BAD);
+    }
+
+    // ---- at most 512 calls ----
+
+    private static void upTo512Calls() {
+        ShrinkDesk x = new ShrinkDesk();
+        for (int call = 1; call < 484; call += 4) {
+            due("call " + call, x.type(false, -1), 0);
+            due("call " + call + " and 1", x.method(0, true), 0);
+            due("call " + call + " and 2", x.build(), OK);
+            due("call " + call + " and 3", x.clear(), 1);
+        }
+        // 484 calls are behind; 5 classes, an INTERFACE, 7 methods, 10 instructions, a rule: 24 more.
+        Desks.tell(x);
+        due("call 509", x.build(), OK);
+        due("call 510", x.run(1, 4, 5), ShrinkDesk.FAILED);
+        due("call 511", x.state(1), 9);
+        due("call 512", x.out(2), 99);
     }
 }

@@ -47,6 +47,8 @@ public final class TermsBoundaryTest extends Checks {
         markingIsLeast();
         markingOfRoots();
         markingOfCalls();
+        markingOfInstructions();
+        markingGoesOn();
         inlinedAtMostThree();
         inlinedOutAndFailAlone();
         inlinedOnlyOnce();
@@ -64,6 +66,7 @@ public final class TermsBoundaryTest extends Checks {
         familyKeepsItsName();
         familyOfAKeptOneThatGoes();
         familiesInOrder();
+        newNamesAboveNine();
         finish("TermsBoundaryTest");
     }
 
@@ -808,6 +811,57 @@ public final class TermsBoundaryTest extends Checks {
         due("what 2 finds, with 1 made", x.stays(2, 0), 2);
     }
 
+    private static void markingOfInstructions() {
+        ShrinkDesk x = Desks.ofClasses(1);
+        filled(x, 0, TEST, 1, 0);
+        x.type(false, -1);
+        x.type(false, -1);
+        filled(x, 5, NEW, 0, 0);
+        x.keep(0, 1 << 2, 1 << 5);
+        due("NEW alone", x.build(), OK);
+        due("makes no method live", x.stays(0, 0), 0);
+        x = Desks.ofClasses(1);
+        filled(x, 0, TEST, 1, 0);
+        x.type(false, -1);
+        x.type(false, -1);
+        filled(x, 5, CALL, 0, 0);
+        x.keep(0, 1 << 2, 1 << 5);
+        due("a CALL where nothing is made", x.build(), OK);
+        due("names what is found", x.stays(0, 0), 1);
+        due("but not what stands in it", x.renamed(1), BAD);
+        x = Desks.ofClasses(1);
+        filled(x, 0, TEST, 0, 0);
+        x.type(false, 0);
+        filled(x, 0, TEST, 0, 0);
+        x.type(false, -1);
+        filled(x, 5, NEW, 1, 0, STATIC, 0, 0);
+        x.keep(0, 1 << 2, 1 << 5);
+        due("a STATIC where a child is made", x.build(), OK);
+        due("what its class finds is live", x.stays(0, 0), 2);
+        due("what the child finds is not", x.stays(1, 0), 0);
+    }
+
+    /** Each of these is found only after the one before, and stands before it. */
+    private static void markingGoesOn() {
+        ShrinkDesk x = Desks.ofClasses(2);
+        filled(x, 0, TEST, 0, 0);
+        filled(x, 1, CALL, 1, 0);
+        filled(x, 2, NEW, 1, 0);
+        filled(x, 3, STATIC, 1, 2);
+        x.keep(0, 1 << 1, 1 << 1 | 1 << 3);
+        due("marking goes on: build", x.build(), OK);
+        due("marking goes on: live by a class made later", x.stays(0, 0), 2);
+        due("marking goes on: named by that", x.renamed(0), 0);
+        x = Desks.ofClasses(1);
+        for (int n = 0; n < 9; n++) {
+            filled(x, n, STATIC, 0, n == 0 ? 0 : n - 1);
+        }
+        filled(x, 9, STATIC, 0, 8);
+        x.keep(0, 1, 1 << 9);
+        due("marking goes on and on: build", x.build(), OK);
+        due("marking goes on and on", x.state(4), 10);
+    }
+
     // ---- inlining ----
 
     /** Class 0 with name 0 as told, class 1 with the root, which does the call on LINE 1. */
@@ -1143,6 +1197,23 @@ public final class TermsBoundaryTest extends Checks {
         dueNames("two of them are one", x, 0, 8, 0, 5);
         x.keep(0, 1 << 4, 0);
         dueNames("all are one", x, 8, 8, 8, 5);
+        x = Desks.ofInterfaces(1);
+        x.method(8, true);
+        x.type(true, -1);
+        x.method(8, true);
+        x.type(true, -1);
+        x.method(8, true);
+        x.type(false, -1);
+        x.also(0);
+        x.also(2);
+        x.type(false, -1);
+        x.also(1);
+        x.also(2);
+        x.type(false, -1);
+        filled(x, 5, CALL, 0, 8, CALL, 1, 8);
+        x.keep(0, 1 << 5 | 1 << 3 | 1 << 4, 1 << 5);
+        x.keep(1, 1 << 1, 1 << 8);
+        dueNames("not by one that goes", x, 0, 8, BAD, 5);
     }
 
     /** Families of 6 and 7; a class that stays, or none, has both in sight. */
@@ -1228,5 +1299,29 @@ public final class TermsBoundaryTest extends Checks {
         x.keep(0, 1 << 0, 511);
         x.keep(0, 1 << 1, 1);
         dueNames("nine kept, the last name is left", x, 0, 1, 2, 3, 4, 5, 6, 7, 8, 9, 0);
+    }
+
+    /** Names go to 9 as told, new ones go on where all of these are in sight. */
+    private static void newNamesAboveNine() {
+        for (int last = 8; last < 10; last++) {
+            ShrinkDesk x = Desks.ofInterfaces(1);
+            x.method(9, true);
+            x.type(true, -1);
+            x.method(0, true);
+            x.type(false, -1);
+            x.also(1);
+            for (int n = 1; n <= last; n++) {
+                x.method(n, true);
+            }
+            x.type(false, -1);
+            x.also(0);
+            x.also(1);
+            filled(x, 5, CALL, 0, 9, CALL, 1, 0);
+            x.keep(0, 1 << 2, -1);
+            x.keep(0, 1 << 3, 1 << 5);
+            // Class 3 sees 0 and 5, class 2 sees 1 to the last one.
+            dueNames("up to " + last + " in sight", x, 0, last + 1);
+            due("the call has the name, too", x.line(3, 5, 1, 2), last + 1);
+        }
     }
 }

@@ -33,6 +33,13 @@ final class Unchanged extends Checks {
         by(what, made, x -> call.of(x) ? 1 : 0, 0);
     }
 
+    /** Two desks that were told alike, though not in the same calls, answer alike. */
+    static void alike(String what, Supplier<ShrinkDesk> made, Supplier<ShrinkDesk> like) {
+        for (List<Question> part : PARTS) {
+            compare(what, part, made.get(), like.get());
+        }
+    }
+
     /** A call that is answered with yes or no. */
     interface Ask {
         boolean of(ShrinkDesk x);
@@ -42,7 +49,7 @@ final class Unchanged extends Checks {
         for (Question question : part) {
             int got = question.ask.applyAsInt(with);
             int want = question.ask.applyAsInt(without);
-            due(what + ", behind that " + question.text, got, want);
+            due(what + ": " + question.text, got, want);
             if (got != want) {
                 return;
             }
