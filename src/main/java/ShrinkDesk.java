@@ -484,8 +484,9 @@ public final class ShrinkDesk {
 
     private void inlineShortMethods() {
         for (int m = 0; m < methodCount; m++) {
+            int lines = lengthOf[m];
             lengthOf[METHODS + m] = 0;
-            for (int k = 0; k < lengthOf[m]; k++) {
+            for (int k = 0; k < lines; k++) {
                 int at = m * ROOM + k;
                 int target = hasBit(liveMethods, m) ? targetOf(at) : NONE;
                 if (target == NONE || target == m || !isShort(target)) {
@@ -551,7 +552,8 @@ public final class ShrinkDesk {
         if (opOf[call] == STATIC) {
             classOf[enter] = NONE;
         }
-        for (int k = 0; k < lengthOf[target]; k++) {
+        int lines = lengthOf[target];
+        for (int k = 0; k < lines; k++) {
             copyInstruction(target * ROOM + k, row, sourceLine[call]);
         }
     }
